@@ -95,6 +95,14 @@ public final class AgainstModelTest {
             random.nextInt(random.nextInt(5) == 0 ? 100 : 10), random.nextInt(random.nextInt(3) == 0 ? 13 : 2),
             random.nextInt(3), random.nextInt(3), random.nextInt(random.nextInt(3) == 0 ? 100 : 5),
             pick(random, new int[] {0, 5, random.nextInt(30), 999})};
+        if (random.nextInt(3) == 0) {
+            // rates that rise and cheap refunds: these are best more than once
+            rules[6] = 50 + random.nextInt(51);
+            rules[7] = random.nextInt(8);
+            rules[11] = 2;
+            rules[12] = random.nextInt(3);
+            rules[13] = random.nextInt(5);
+        }
         StringBuilder text = new StringBuilder("l");
         for (int i = 0; i < 14; i++) {
             text.append("ptcbudqmsfnkge".charAt(i)).append(rules[i]);

@@ -221,6 +221,15 @@ public final class PromisesTest {
         due("one of the last year is left out", desk.year(3, 0), 800);
         due("x", rateOf(desk, 1, 1), 8);
         due("plain", rateOf(desk, 1, 0), 40);
+        RefundDesk plain = new RefundDesk();
+        due("items that are not told", take(plain, "i;ia70;xr9;xy1r8;l", 0), 5);
+        due("an instalment of year 1", plain.year(1, 0), 70);
+        due("a rate of (0, 0)", rateOf(plain, 0, 0), 9);
+        due("a rate of (1, 0)", rateOf(plain, 1, 0), 8);
+        due("an amount of 0", take(plain, "iy2a5;iy2;xy1h1", 0) * 100 + plain.year(2, 0), 500);
+        due("a rate of 0", rateOf(plain, 1, 1), 0);
+        due("a deed of (0, 0)", take(plain, "py1;pa2", 2), 1);
+        due("it", plain.deed(0, 0), 2);
         due("policy", take(desk, "py1h0a1;py1h1a2;py3h0a1;py1h1a1;py0h1a2;py2h2a0;py2h1a2", 2), 3);
         due("deed", desk.deed(1, 1), 1);
         due("policy anew", take(desk, "py2h2a2", 2), 1);
@@ -321,6 +330,12 @@ public final class PromisesTest {
         due("costs (1, 0)", desk.costs(1, 0, 0), 1110);
         due("called ahead of FIRST", desk.costs(0, 0, 2), NONE);
         due("a table behind a refund", with(TWO).costs(1, 1, 3), 1020);
+        desk = with("lp1000t2c50b50u0d0f0k1");
+        due("a refund", desk.costs(0, 0, 3), 1025);
+        desk.refund();
+        due("the coupon is the same, but none is left", desk.costs(0, 0, 3), NONE);
+        due("of all years, ended, too", ended(FREE).costs(0, 0, 1), 1100);
+        desk = with(NOTICE);
 
         promise = 10;
         due("best (1, 0)", desk.best(1, 0), 1);
@@ -897,6 +912,9 @@ public final class PromisesTest {
         due("the policy stays", desk.deed(0, 0), 2);
         desk = with("lp1000t3c100b100u0d0f0m0s0e0k0;xy2h0r0;xy2h1r0;xy2h2r0");
         due("two rounds", desk.rounds(), 2);
+        desk = with("lp5883t11c184b83u53d14q97m6s1f2n0k2g6e4;xy6h6r50;xy0h0r124;xy9h8r185;xy6h3r165;xy1h1r32;xy3h3r152;xy5h1r17");
+        due("deeds", take(desk, "py3h0a1;py7h6a1;py2h0a2;py10h0a1;py11h11a2;py2h1a1;py4h4a2;py7h4a2;py8h6a1;py0h0a1;py2h2a1", 2), 10);
+        due("they never settle", desk.rounds(), NONE);
         due("ended", ended(TWO).rounds(), NONE);
         due("no loan", new RefundDesk().rounds(), NONE);
         morePolicy();
@@ -906,6 +924,7 @@ public final class PromisesTest {
         promise = 42;
         RefundDesk desk = with("lp1000t1c0b50f12");
         due("as it is", desk.shifted(0), 952);
+        due("one more", desk.shifted(1), 951);
         due("more", desk.shifted(99), 1000 * 1000 / 1149);
         due("0 at least", desk.shifted(-99), 1000);
         due("999 at most", with("lp1000t1c0b950f12").shifted(99), 500);
@@ -1040,6 +1059,26 @@ public final class PromisesTest {
         due("one can be", desk.count(4), 1);
         due("undone", desk.undo(), 0);
         due("the image stays", desk.back(), 100);
+        desk = with("lt12");
+        for (int i = 0; i < 75; i++) {
+            desk.tell(i % 12, 0, 100 + i);
+        }
+        desk.image();
+        for (int i = 0; i < 75; i++) {
+            desk.tell(i % 5, 0, 300 + i);
+        }
+        due("back", desk.back(), 0);
+        due("the log is as long", desk.count(3), 60);
+        for (int i = 0; i < 60; i++) {
+            due("the log as it was", desk.log(i, 1), (74 - i) % 12);
+        }
+        for (int i = 0; i < 40; i++) {
+            desk.tell(3, 0, 400 + i);
+        }
+        for (int i = 0; i < 40; i++) {
+            desk.undo();
+        }
+        due("the log as it was", desk.log(0, 1) * 100 + desk.log(59, 1), 74 % 12 * 100 + 15 % 12);
         take(desk, "l", 0);
         due("of another loan", desk.back(), NONE);
         due("no loan", new RefundDesk().back(), NONE);
