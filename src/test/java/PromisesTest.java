@@ -20,6 +20,7 @@ public final class PromisesTest {
         records();
         outlook();
         policy();
+        onTheEdge();
         scriptsAndImages();
         System.out.println(wrong == 0 ? "all promises are kept" : wrong + " answers are not as due");
         if (wrong != 0) {
@@ -773,6 +774,9 @@ public final class PromisesTest {
         due("up to a high one", with("lp1000t2c999b0u0d0f0m0s0e0k0").till(), 997);
         due("all", with("lp1000t2c999b0u0d0f0n1m0s0e0k0").till(), 999);
         due("by a refund", with("lp1000t1c900f0m50s0e7k1").till(), tillOfOneYear());
+        // called it would cost 1,000 or more; the new loan's coupon is 5, and the rates rise behind it
+        due("by a refund with notice", with("lp1000t6c30b5u60d0q100m0e0f0n1k1;xy1h1r5").till(), 999);
+        due("not by a call", with("lp1000t6c30b5u60d0q100m0e0f0n1k0;xy1h1r5").till(), NONE);
         due("ended", ended(FREE).till(), NONE);
         due("no loan", new RefundDesk().till(), NONE);
         RefundDesk desk = with("lp1000t5c80b60u10d10f0m20s5e7k2g3n1");
@@ -950,6 +954,40 @@ public final class PromisesTest {
         due("ended", ended(TWO).spread(0), NONE);
         due("no loan", new RefundDesk().spread(0), NONE);
         due("all ways of twelve years", with("lp9999t12c999b999f12").spread(4), 4096 * (9999 + 12 * 9989));
+    }
+
+    /** At a rate of 98 calling is best by 1, at 99 it is not: all answers go by the rates as they are. */
+    private static void onTheEdge() {
+        RefundDesk desk = with(FREE + ";xr98");
+        promise = 10;
+        due("best", desk.best(0, 0), 1);
+        promise = 26;
+        due("mass", desk.mass(1, 0), 0);
+        promise = 27;
+        due("masses", desk.masses(0), 1000000000);
+        promise = 31;
+        due("edge", desk.edge(0), NONE);
+        promise = 33;
+        due("ending", desk.ending(0, 0), 1000000000);
+        promise = 40;
+        due("mended", take(desk, "py1h0a1;py1h1a1;py2h0a1;py2h1a1;py2h2a1", 2) * 10 + desk.mended(0, 0), 51);
+        promise = 39;
+        due("strays", desk.strays(0), 1);
+        promise = 19;
+        due("adopt", desk.adopt(), 1);
+        promise = 39;
+        due("strays", desk.strays(0), 0);
+        promise = 18;
+        due("doBest", desk.doBest(), 1);
+        desk = with(FREE + ";xr99");
+        promise = 10;
+        due("best", desk.best(0, 0), 0);
+        promise = 19;
+        due("adopt", desk.adopt(), 5);
+        promise = 39;
+        due("strays", desk.strays(0), 0);
+        promise = 18;
+        due("doBest", desk.doBest(), NONE);
     }
 
     private static void scriptsAndImages() {
