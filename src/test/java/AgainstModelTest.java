@@ -20,6 +20,9 @@ public final class AgainstModelTest {
         int runs = args.length > 1 ? Integer.parseInt(args[1]) : 90;
         long seed = args.length > 2 ? Long.parseLong(args[2]) : 20261117L;
         Random random = new Random(seed);
+        manyRounds("lp468t12c88b34u6d93q86m31s43f0n0k2g3e1", "xy8h6r183;xy4h2r167", "py11h2a1;py10h6a2", 20);
+        manyRounds("lp2707t12c184b42u15d99q96m11s55f0n0k1g2e1", "xy3h0r838",
+            "py11h11a1;py2h0a1;py7h6a1;py7h7a1;py10h4a2;py11h5a1;py0h0a1;py2h1a2;py3h1a2;py8h4a2;py1h0a2", 21);
         for (int i = 0; i < runs && wrong < 20; i++) {
             oneRun(random, i);
         }
@@ -47,6 +50,34 @@ public final class AgainstModelTest {
             }
             desk.feed(five[0], five[1], five[2], five[3], five[4]);
         }
+    }
+
+    /** How many rounds it takes without a bound: 20 are told, 21 are not. */
+    private static void manyRounds(String loan, String rates, String deeds, int rounds) {
+        RefundDesk desk = new RefundDesk();
+        Model model = new Model();
+        story = loan + ";" + rates + ", policy " + deeds + ":";
+        String[] numbers = loan.substring(1).split("[a-z]");
+        int[] rules = new int[14];
+        for (int i = 0; i < 14; i++) {
+            rules[i] = Integer.parseInt(numbers[i + 1]);
+        }
+        model.loan(rules);
+        for (String clause : rates.split(";")) {
+            String[] three = clause.substring(2).split("[hr]");
+            model.clauseRate(Integer.parseInt(three[0]), Integer.parseInt(three[1]), Integer.parseInt(three[2]));
+        }
+        for (String clause : deeds.split(";")) {
+            String[] three = clause.substring(2).split("[ha]");
+            model.clausePolicy(Integer.parseInt(three[0]), Integer.parseInt(three[1]), Integer.parseInt(three[2]));
+        }
+        put(desk, loan + ";" + rates);
+        due("text(0)", desk.text(0), 12);
+        put(desk, deeds);
+        due("text(2)", desk.text(2), model.policySize());
+        due("rounds without a bound", rounds, model.roundsUpTo(100));
+        due("rounds()", desk.rounds(), model.rounds());
+        due("rounds()", desk.rounds(), rounds > 20 ? -1 : rounds);
     }
 
     private static int pick(Random random, int[] some) {
@@ -991,13 +1022,17 @@ public final class AgainstModelTest {
         }
 
         int rounds() {
+            return roundsUpTo(20);
+        }
+
+        int roundsUpTo(int most) {
             if (closed()) {
                 return -1;
             }
             Map<Integer, Integer> keep = state.deeds;
             int n = 0;
             boolean changed = true;
-            while (n <= 20 && changed) {
+            while (n <= most && changed) {
                 Map<Integer, Integer> now = new HashMap<>(state.deeds);
                 changed = false;
                 for (int t = 0; t < years(); t++) {

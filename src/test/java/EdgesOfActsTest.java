@@ -27,6 +27,7 @@ public final class EdgesOfActsTest {
         undoing();
         undoneSorts();
         logging();
+        loggedYears();
         Bench.finish();
     }
 
@@ -500,6 +501,27 @@ public final class EdgesOfActsTest {
                 }
             }
         }
+    }
+
+    /** CALLED, REFUNDED, WITHDRAWN tell the YEAR of now, whatever the act ahead of them told. */
+    private static void loggedYears() {
+        String loan = "lt5f0n1k2";
+        for (String acts : new String[] {"c", "r", "cw", "rw"}) {
+            RefundDesk desk = Bench.with(loan, "ud");
+            for (int i = 0; i < acts.length(); i++) {
+                desk.tell(4, 1, 300 + i);
+                Bench.act(desk, acts.charAt(i));
+                Bench.due("behind a RATE of year 4, " + acts + ": log(0, 1)", desk.log(0, 1), 2);
+                desk.instal(3, 300 + i);
+            }
+        }
+        RefundDesk desk = Bench.with("lt5f0n0k2", "ud");
+        desk.tell(4, 1, 300);
+        desk.refund();
+        Bench.due("at once: log(0, 1)", desk.log(0, 1), 2);
+        desk.instal(3, 5);
+        desk.call();
+        Bench.due("at once: log(0, 1)", desk.log(0, 1), 2);
     }
 
     private static void shown(String when, RefundDesk desk, int acts) {

@@ -127,6 +127,37 @@ public final class EdgesOfOutlookTest {
         Bench.due("REFUNDS of the way alone", Bench.with(twice, "r").way(7, 1), 1);
         Bench.due("none left", Bench.with(twice.replace("k2", "k0")).way(7, 1), 0);
         Bench.due("twelve moves", Bench.with("lp1000t12c10f12").way(4095, 2), 12);
+        // at year 2 it is called down, held up: behind a year the lowest bit is that move
+        String later = "lp1000t3c100b100u60d60q30f2m0s0e0k0;xy2h1r98;xy2h2r500";
+        Bench.due("the first move from here on: down", Bench.with(later, "u").way(6, 2), 2);
+        Bench.due("the first move from here on: up", Bench.with(later, "u").way(1, 2), 3);
+        waysWithNotice();
+    }
+
+    /** All rates 0 but those that are told, so calls and refunds are best at once; they run out by the moves. */
+    private static void waysWithNotice() {
+        for (int notice = 1; notice <= 2; notice++) {
+            RefundDesk desk = Bench.with("lp1000t4c100b0u0d0f0m0s0e0k0n" + notice);
+            for (int moves = 0; moves < 16; moves++) {
+                Bench.due("a call, NOTICE " + notice + ", moves " + moves, desk.way(moves, 0), 1000 + 100 * notice);
+                Bench.due("its YEAR", desk.way(moves, 2), notice);
+            }
+        }
+        // refunded at (1, 0) at 3 per mille, at (1, 1) at 7; then the rates are high, and it is held
+        String one = "lp1000t3c400b0u0d0f0m0s0e2k1n1;xy1h0r3;xy1h1r7;xy2h0r900;xy2h1r900;xy2h2r900";
+        Bench.due("a refund, down", Bench.with(one).way(0, 0), 400 + 2 + 3 + 1003);
+        Bench.due("a refund, up", Bench.with(one).way(1, 0), 400 + 2 + 7 + 1007);
+        Bench.due("one", Bench.with(one).way(1, 1) * 10 + Bench.with(one).way(1, 2), 13);
+        String two = "lp1000t4c400b0u0d0f0m0s0e2k1n2;xy2h0r3;xy2h1r5;xy2h2r8;xy3h0r900;xy3h1r900;xy3h2r900;xy3h3r900";
+        int[] coupons = {3, 5, 5, 8};
+        for (int moves = 0; moves < 4; moves++) {
+            Bench.due("a refund, two years", Bench.with(two).way(moves, 0), 800 + 2 + 2 * coupons[moves] + 1000);
+        }
+        Bench.due("no REFUNDS: called", Bench.with(two.replace("k1", "k0")).way(0, 0), 1800);
+        Bench.due("all of them: least", Bench.with(two).spread(0), 1808);
+        Bench.due("all of them: greatest", Bench.with(two).spread(1), 1818);
+        Bench.due("all of them: unlike", Bench.with(two).spread(3), 3);
+        Bench.due("all of them: added up", Bench.with(two).spread(4), 4 * (1808 + 2 * 1812 + 1818));
     }
 
     private static void masses() {
@@ -297,6 +328,13 @@ public final class EdgesOfOutlookTest {
             Bench.asked("saved of " + row[0], Bench.loan((String) row[0]), RefundDesk::saved, (Integer) row[1]);
         }
         Bench.asked("none left", Bench.loan(rises + "e0k1", "r"), RefundDesk::saved, 0);
+        // one year, a premium of all: held 19,988 by the rate, or refunded: as much as the premium and 10,099
+        for (int rate : new int[] {7, 8, 9, 10, 11, 12}) {
+            String loan = "lp9999t1c999m999e0f0k1b" + rate;
+            int held = 19988000 / (1000 + rate);
+            int renewed = 9989 + (9999 + 9999 * rate / 1000) * 1000 / (1000 + rate);
+            Bench.asked("saved at " + rate, Bench.loan(loan), RefundDesk::saved, Math.min(held, 19988) - Math.min(renewed, Math.min(held, 19988)));
+        }
 
         Bench.promise(35);
         Consumer<RefundDesk> state = Bench.loan("lp1000t3c100;iy1a400;iy2a9999");
@@ -367,6 +405,9 @@ public final class EdgesOfOutlookTest {
         Bench.asked("a year later", Bench.loan(FREE, "u"), RefundDesk::regret, 200);
         Bench.asked("none", policy(FREE, "", "pa1"), RefundDesk::regret, 0);
         Bench.asked("none, adopted", Bench.loan(FREE, "a"), RefundDesk::regret, 0);
+        for (int rate : new int[] {40, 41, 42, 43}) {
+            Bench.asked("at " + rate, Bench.loan("lp9999t1c200m0e0f0k0b" + rate), RefundDesk::regret, (9999 + 1999) * 1000 / (1000 + rate) - 9999);
+        }
         Bench.asked("of one unit", policy(FREE + ";xr98", "", "py1a1;py1h1a1"), RefundDesk::regret, 1);
 
         Bench.promise(39);
@@ -411,11 +452,18 @@ public final class EdgesOfOutlookTest {
         Bench.asked("once", Bench.loan(FREE), RefundDesk::rounds, 1);
         Bench.asked("one deed that may not be", policy(NEVER, "", "pa1"), RefundDesk::rounds, 1);
         Bench.asked("one that can't be come to", policy(NEVER, "u", "pa1;py1a1;py2a1"), RefundDesk::rounds, 0);
+        Bench.asked("nor one above", policy(NEVER, "d", "pa1;py1h1a1;py2h2a1"), RefundDesk::rounds, 0);
+        Bench.asked("the lowest that can be", policy(NEVER, "u", "py2h1a1"), RefundDesk::rounds, 1);
+        Bench.asked("the highest that can be", policy(NEVER, "d", "py2h1a1"), RefundDesk::rounds, 1);
         Bench.asked("of this node", policy(NEVER, "u", "py1h1a1"), RefundDesk::rounds, 1);
         Bench.asked("twice", Bench.loan("lp1000t3c100b100u0d0f0m0s0e0k0;xy2h0r0;xy2h1r0;xy2h2r0"), RefundDesk::rounds, 2);
         String endless = "lp5883t11c184b83u53d14q97m6s1f2n0k2g6e4;xy6h6r50;xy0h0r124;xy9h8r185;xy6h3r165;xy1h1r32;xy3h3r152;xy5h1r17";
         String deeds = "py3h0a1;py7h6a1;py2h0a2;py10h0a1;py2h1a1;py4h4a2;py7h4a2;py8h6a1;pa1;py2h2a1";
-        Bench.asked("more than 20", policy(endless, "", deeds), RefundDesk::rounds, Bench.NONE);
+        Bench.asked("without an end", policy(endless, "", deeds), RefundDesk::rounds, Bench.NONE);
+        // found by searching; AgainstModelTest counts both without a bound
+        Bench.asked("twenty", policy("lp468t12c88b34u6d93q86m31s43f0n0k2g3e1;xy8h6r183;xy4h2r167", "", "py11h2a1;py10h6a2"), RefundDesk::rounds, 20);
+        Bench.asked("twenty-one", policy("lp2707t12c184b42u15d99q96m11s55f0n0k1g2e1;xy3h0r838", "",
+            "py11h11a1;py2h0a1;py7h6a1;py7h7a1;py10h4a2;py11h5a1;pa1;py2h1a2;py3h1a2;py8h4a2;py1h0a2"), RefundDesk::rounds, Bench.NONE);
         // the same by mending through the face: as many texts as rounds
         String[] loans = {"lp9999t5c150b150u60d40q30f0m3s1e2k0", "lp9999t5c150b150u60d40q30f0m3s1e2k1", "lp7777t5c120b100u90d30q60f0m0s0e9k2n1",
             "lp9000t4c90b140u10d70q50f0m0s0e0k0;xy3h0r0;xy3h1r0;xy3h2r0;xy3h3r0"};
@@ -481,6 +529,16 @@ public final class EdgesOfOutlookTest {
                     (Integer) row[2 + what]);
             }
         }
+        for (int principal : new int[] {63, 64, 65, 127, 128, 129}) {
+            Bench.due("sums of " + principal, Bench.with("lt2c0f12p" + principal).spread(3), 1);
+        }
+        // what was found a year ago does not stay
+        RefundDesk later = Bench.with(NEVER);
+        Bench.due("at first", later.spread(1) * 10 + later.spread(3), 13001);
+        later.up();
+        Bench.due("a year later", later.spread(1) * 10 + later.spread(3), 12001);
+        later.up();
+        Bench.due("two years later", later.spread(0) * 10 + later.spread(2), 11000);
         spreadByWays("lp5000t5c90b80u30d20q50f1m5s1e3k2g1", "");
         spreadByWays("lp5000t6c120b60u25d15q40f1n1m5s1e3k2g1;iy2a500", "u");
         spreadByWays("lp9999t7c60b60u10d20q70f2n2m9s3e9k1", "");

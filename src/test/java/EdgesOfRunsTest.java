@@ -313,6 +313,17 @@ public final class EdgesOfRunsTest {
             Bench.due("one can be", now.undo(), 0);
             same(now, plain);
         }
+        for (int undone = 1; undone <= 4; undone++) {
+            RefundDesk now = Bench.made(state.andThen(RefundDesk::image));
+            for (int i = 0; i < undone; i++) {
+                now.undo();
+            }
+            now.tell(3, 3, 12);
+            now.instal(3, 8);
+            now.withdraw();
+            Bench.due("BACK behind " + undone + " undone and others done", now.back(), 100);
+            same(now, Bench.made(state));
+        }
         RefundDesk desk = Bench.made(Bench.loan(FOUR, "u").andThen(RefundDesk::image));
         Bench.due("at once", desk.back(), 100);
         Bench.due("no act can be undone", desk.undo(), Bench.NONE);

@@ -394,6 +394,13 @@ public final class EdgesOfTextsTest {
         desk = good("iy1a300;iy1;xy1h1r5;xy1h1;lt3b9", 0);
         Bench.due("an i of 0 holds, too", desk.year(1, 0), 0);
         Bench.due("an x of 0 holds, too", Bench.rateOf(desk, 1, 1), 0);
+        desk = good("lt3;ia250;xr8;xy1r9;xh1y1", 0);
+        Bench.due("an i without a YEAR: 1", desk.year(1, 0), 250);
+        Bench.due("an x without YEAR and HEIGHT: (0, 0)", Bench.rateOf(desk, 0, 0), 8);
+        Bench.due("an x without HEIGHT: 0", Bench.rateOf(desk, 1, 0), 9);
+        Bench.due("an x without a RATE: 0", Bench.rateOf(desk, 1, 1), 0);
+        Bench.due("a p without YEAR and HEIGHT, without HEIGHT, without a DEED", Bench.take(desk, "py1h1a2;pa1;py1a2;ph1y1", 2), 2);
+        Bench.due("(0, 0), (1, 0), (1, 1)", desk.deed(0, 0) * 100 + desk.deed(1, 0) * 10 + desk.deed(1, 1), 120);
         desk = good("iy1a300;iy3a1;lt3", 0);
         Bench.due("one that is left out changes nothing", desk.year(1, 0), 300);
     }
@@ -426,6 +433,8 @@ public final class EdgesOfTextsTest {
         });
         for (String text : new String[] {"lt2", LOAN, "lt5n2k2", "i"}) {
             RefundDesk desk = Bench.made(refusals);
+            // what was reckoned of the other loan is gone as well
+            Bench.picture(desk);
             int[] status = {desk.status(0), desk.status(1), desk.status(2), desk.status(3)};
             int years = Bench.take(desk, text, 0);
             RefundDesk plain = Bench.with(text);
@@ -444,7 +453,7 @@ public final class EdgesOfTextsTest {
     }
 
     private static void policies() {
-        Consumer<RefundDesk> told = tape("py2h1a1;p y2 h2 a2;pa1;py1h1");
+        Consumer<RefundDesk> told = tape("py2h1a1;p y2 h2 a2;pa1");
         RefundDesk desk = Bench.taken("a policy", told, x -> x.text(2), 3);
         Bench.due("what was told ahead is gone", desk.deed(1, 1), 0);
         Bench.due("no act", desk.count(4) * 10 + desk.count(3), 33);
