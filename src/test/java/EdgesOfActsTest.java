@@ -26,6 +26,7 @@ public final class EdgesOfActsTest {
         statuses();
         undoing();
         undoneSorts();
+        askedAhead();
         logging();
         loggedYears();
         Bench.finish();
@@ -454,6 +455,30 @@ public final class EdgesOfActsTest {
             Bench.due("undo() of " + NAMES[sort], now.undo(), could);
             Bench.same("undo() of " + NAMES[sort], Bench.picture(now), Bench.picture(was));
         }
+    }
+
+    /** What was asked ahead of an act does not stay: the same answers as if it had not been asked. */
+    private static void askedAhead() {
+        Bench.promise(9);
+        String[] loans = {"lp9999t3c90b60u20d10q40f0n0k2m9s2e7;iy1a900", "lp9999t3c120b60u20d10q40f0n1k2m9s2e7"};
+        for (String loan : loans) {
+            for (int sort = 0; sort < 10; sort++) {
+                int one = sort;
+                Consumer<RefundDesk> ahead = Bench.loan(loan).andThen(desk -> Bench.take(desk, "pa2;py1h1a1", 2));
+                if (sort == 4) {
+                    ahead = Bench.loan(loan.replace("n0", "n1"), "r");
+                }
+                Consumer<RefundDesk> act = desk -> Bench.due(NAMES[one] + " is done or refused", toldAnew(desk, one) < -1, false);
+                RefundDesk asked = Bench.made(ahead.andThen(desk -> Bench.picture(desk)).andThen(act));
+                Bench.same(loan + ", asked ahead of " + NAMES[sort], Bench.picture(asked), Bench.picture(Bench.made(ahead.andThen(act))));
+                asked.undo();
+                Bench.same("and undone", Bench.outline(asked), Bench.outline(Bench.made(ahead.andThen(act).andThen(RefundDesk::undo))));
+            }
+        }
+    }
+
+    private static int toldAnew(RefundDesk desk, int sort) {
+        return sort == 5 ? desk.instal(2, 777) : sort == 6 ? desk.tell(1, 1, 7) : act(desk, sort);
     }
 
     private static void logging() {

@@ -132,6 +132,32 @@ public final class EdgesOfOutlookTest {
         Bench.due("the first move from here on: down", Bench.with(later, "u").way(6, 2), 2);
         Bench.due("the first move from here on: up", Bench.with(later, "u").way(1, 2), 3);
         waysWithNotice();
+        waysByActs();
+    }
+
+    /** The same by the acts themselves: the best is done till it is refused, then the year passes by its move. */
+    private static void waysByActs() {
+        String[] loans = {"lp5000t4c150b120u40d45q50f0m10s3e4k2g1", "lp5000t4c150b120u40d45q50f0m10s3e4k1g1", "lp9000t5c90b90u30d30q60f1n1m6s1e9k2",
+            "lp9000t4c200b70u30d30q20f0n2m6s1e9k1", "lp9999t5c300b200u20d60q40f0m2s1e1k2;iy2a3000", "lp9999t5c300b200u20d60q40f0m2s1e1k1;iy2a3000"};
+        int renewed = 0;
+        for (String loan : loans) {
+            int rows = 1 << Bench.with(loan).count(0);
+            for (int moves = 0; moves < rows; moves++) {
+                RefundDesk desk = Bench.with(loan);
+                int[] told = {desk.way(moves, 0), desk.way(moves, 1), desk.way(moves, 2)};
+                for (int year = 0; year < 12 && desk.most(7) == 0; year++) {
+                    for (int i = 0; i < 3 && desk.doBest() >= 0; i++) {
+                        continue;
+                    }
+                    Bench.act(desk, (moves >> year & 1) == 1 ? 'u' : 'd');
+                }
+                Bench.due(loan + ", moves " + moves + ": PAID", told[0], desk.most(0));
+                Bench.due(loan + ", moves " + moves + ": REFUNDS", told[1], desk.most(10));
+                Bench.due(loan + ", moves " + moves + ": YEAR", told[2], desk.most(4));
+                renewed = Math.max(renewed, told[1]);
+            }
+        }
+        Bench.due("two REFUNDS on a way", renewed, 2);
     }
 
     /** All rates 0 but those that are told, so calls and refunds are best at once; they run out by the moves. */
@@ -154,6 +180,10 @@ public final class EdgesOfOutlookTest {
             Bench.due("a refund, two years", Bench.with(two).way(moves, 0), 800 + 2 + 2 * coupons[moves] + 1000);
         }
         Bench.due("no REFUNDS: called", Bench.with(two.replace("k1", "k0")).way(0, 0), 1800);
+        // sums that are 64 apart
+        String apart = one.replace("xy1h1r7", "xy1h1r35");
+        Bench.due("least, greatest", Bench.with(apart).spread(0) * 10000 + Bench.with(apart).spread(1), 14081472);
+        Bench.due("unlike", Bench.with(apart).spread(3), 2);
         Bench.due("all of them: least", Bench.with(two).spread(0), 1808);
         Bench.due("all of them: greatest", Bench.with(two).spread(1), 1818);
         Bench.due("all of them: unlike", Bench.with(two).spread(3), 3);
@@ -205,6 +235,20 @@ public final class EdgesOfOutlookTest {
         }
         Bench.due("called in the last year that can be", Bench.with(FREE.replace("f0", "f2")).masses(0), WHOLE);
         Bench.due("from the last node", Bench.with(NEVER, "uu").masses(2), WHOLE);
+        // one year, 1,100 by the rate: at 98 called, at 99 held
+        for (int rate = 97; rate <= 100; rate++) {
+            RefundDesk desk = Bench.with("lp1000t1c100m0f0k0b" + rate);
+            Bench.due("CALLED at " + rate, desk.masses(0), rate < 99 ? WHOLE : 0);
+            Bench.due("to the end at " + rate, desk.masses(2), rate < 99 ? 0 : WHOLE);
+            Bench.due("ending at " + rate, desk.ending(0, 0), rate < 99 ? WHOLE : 0);
+            Bench.due("rounds at " + rate, desk.rounds(), rate < 99 ? 1 : 0);
+            Bench.due("mended at " + rate, desk.mended(0, 0), rate < 99 ? 1 : 0);
+            Bench.due("edge at " + rate, desk.edge(0), rate < 99 ? Bench.NONE : 0);
+            Bench.due("strays at " + rate, desk.strays(0), rate < 99 ? 1 : 0);
+            Bench.due("regret at " + rate, desk.regret(), rate < 98 ? 2 : rate < 99 ? 1 : 0);
+            Bench.due("mass behind it at " + rate, Bench.with(FREE + ";xr" + rate).mass(1, 0), rate < 99 ? 0 : WHOLE / 2);
+            Bench.due("adopt at " + rate, desk.adopt(), rate < 99 ? 1 : Bench.NONE);
+        }
     }
 
     private static void worthAndMargin() {
@@ -240,11 +284,15 @@ public final class EdgesOfOutlookTest {
         for (Object[] row : rows) {
             Bench.asked("till of " + row[0], Bench.loan((String) row[0]), RefundDesk::till, (Integer) row[1]);
         }
+        Bench.asked("998, the most without NOTICE", Bench.loan("lp9999t3c999b0u0d0m0s0f0n0k0"), RefundDesk::till, 998);
+        // with NOTICE: held 2,203 just so, refunded 2,202.99; at no greater rate do the cuts part them
+        Bench.asked("0 alone, with NOTICE", Bench.loan("lp2199t2c2q1f0n1k1m0e0g0;iy1a1699;xy1h1r1;xy1h0r2"), RefundDesk::till, 0);
         Bench.asked("at FIRST", Bench.loan(FREE.replace("f0", "f1"), "u"), RefundDesk::till, 98);
         Bench.asked("of this NODE", Bench.loan(FREE + ";xy1h0r500", "d"), RefundDesk::till, 98);
         Bench.asked("too late", Bench.loan(FREE.replace("n0", "n1"), "dd"), RefundDesk::till, Bench.NONE);
         String[] loans = {"lp9999t4c90b40u20d20q30f0m7s2e3k2g1", "lp777t5c60b50u9d9q60f0n1m9s1e2k1g2", "lp5000t4c70b60u30d5f0m0s0e40k1;iy2a900",
-            "lp9999t3c300b100u10d40q10f0n2m3e0k2"};
+            "lp9999t3c300b100u10d40q10f0n2m3e0k2", "lp7620t2c3b6u3d23q20m10s9f0n1k2g1e6", "lp22t3c92b31u16d2q99m15s2f0n1k0g3e8",
+            "lp2199t2c2q1f0n1k1m0e0g0;iy1a1699;xy1h1r1;xy1h0r2"};
         for (String loan : loans) {
             for (String acts : new String[] {"", "u", "d"}) {
                 tillByTrying(loan, acts);
@@ -328,12 +376,12 @@ public final class EdgesOfOutlookTest {
             Bench.asked("saved of " + row[0], Bench.loan((String) row[0]), RefundDesk::saved, (Integer) row[1]);
         }
         Bench.asked("none left", Bench.loan(rises + "e0k1", "r"), RefundDesk::saved, 0);
-        // one year, a premium of all: held 19,988 by the rate, or refunded: as much as the premium and 10,099
-        for (int rate : new int[] {7, 8, 9, 10, 11, 12}) {
-            String loan = "lp9999t1c999m999e0f0k1b" + rate;
-            int held = 19988000 / (1000 + rate);
-            int renewed = 9989 + (9999 + 9999 * rate / 1000) * 1000 / (1000 + rate);
-            Bench.asked("saved at " + rate, Bench.loan(loan), RefundDesk::saved, Math.min(held, 19988) - Math.min(renewed, Math.min(held, 19988)));
+        // one year: called 10,998; refunded 999, and 9,999 and what is cut of its interest, by the rate
+        for (int rate : new int[] {0, 1, 2, 999}) {
+            int renewed = 999 + (9999 + 9999 * rate / 1000) * 1000 / (1000 + rate);
+            int held = (9999 + 9989) * 1000 / (1000 + rate);
+            int without = Math.min(held, 10998);
+            Bench.asked("saved at " + rate, Bench.loan("lp9999t1c999m100e0f0k1b" + rate), RefundDesk::saved, without - Math.min(without, renewed));
         }
 
         Bench.promise(35);

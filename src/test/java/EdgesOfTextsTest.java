@@ -224,6 +224,9 @@ public final class EdgesOfTextsTest {
         String most = repeat("i", 12) + ";l;" + repeat("x", 16);
         RefundDesk desk = good(most, 0);
         Bench.due("its rate", Bench.rateOf(desk, 0, 0), 0);
+        desk = good("iy1a30;" + repeat("iy2", 10) + ";iy3a50;xy1r5;" + repeat("xy1h1r8", 14) + ";lt4;xy3h3r7", 0);
+        Bench.due("the first i, the last one", desk.year(1, 0) * 100 + desk.year(3, 0), 3050);
+        Bench.due("the first x, the last one", Bench.rateOf(desk, 1, 0) * 10 + Bench.rateOf(desk, 3, 3), 57);
         bad(most + ";l", 0, most.length() + 1);
         bad(most + ";i", 0, most.length() + 1);
         bad(most + ";x", 0, most.length() + 1);
