@@ -262,6 +262,11 @@ public final class EdgesOfActsTest {
             Bench.refused("tell(" + far + ", 0, 5)", Bench.loan(loan), x -> x.tell(far, 0, 5), Bench.NONE, 0);
             Bench.refused("tell(0, " + far + ", 5)", Bench.loan(loan), x -> x.tell(0, far, 5), Bench.NONE, 0);
             Bench.refused("tell(4, " + far + ", 5)", Bench.loan(loan, "u"), x -> x.tell(4, far, 5), Bench.NONE, 0);
+            for (String acts : new String[] {"u", "d", "ud", "uuuu", "dddd"}) {
+                int height = acts.replace("d", "").length();
+                Bench.refused(acts + ": tell(" + far + ", " + height + ", 5)", Bench.loan(loan, acts), x -> x.tell(far, height, 5), Bench.NONE, 0);
+                Bench.refused(acts + ": tell(" + far + ", " + far + ", 5)", Bench.loan(loan, acts), x -> x.tell(far, far, 5), Bench.NONE, 0);
+            }
         }
         Bench.taken("(11, 11)", Bench.loan("lt12b0u0"), x -> x.tell(11, 11, 5), 0);
         Bench.refused("(12, 0)", Bench.loan("lt12b0u0"), x -> x.tell(12, 0, 5), Bench.NONE, 0);

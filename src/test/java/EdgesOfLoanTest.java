@@ -19,6 +19,7 @@ public final class EdgesOfLoanTest {
         noticeCosts();
         newCoupon();
         best();
+        anotherCoupon();
         Bench.finish();
     }
 
@@ -300,5 +301,38 @@ public final class EdgesOfLoanTest {
         Bench.asked("best(3, 3)", GOING, desk -> desk.best(3, 3), 0);
         Bench.asked("best(0, 0)", GOING, desk -> desk.best(0, 0), 0);
         Bench.asked("ended", Bench.loan("lp1000t2c100b0u0d0f1m0e0k0", "uu"), desk -> desk.best(1, 1), 1);
+    }
+
+    /** What was reckoned by one COUPON does not stay for another one with as many REFUNDS left. */
+    private static void anotherCoupon() {
+        Bench.promise(9);
+        for (String refunds : new String[] {"k1", "k2"}) {
+            Consumer<RefundDesk> loan = Bench.loan("lp1000t3c100b50u30d10q40m9s2f0n0g1e2" + refunds)
+                .andThen(desk -> Bench.take(desk, "py1h1a2;py2h1a1", 2));
+            RefundDesk plain = Bench.made(loan.andThen(desk -> Bench.acts(desk, "ur")));
+            String want = Bench.picture(plain);
+            RefundDesk desk = Bench.made(loan);
+            desk.refund();
+            long first = desk.costs(1, 1, 1);
+            long told = desk.byPolicy(2, 0);
+            desk.undo();
+            Bench.acts(desk, "ur");
+            Bench.due("another COUPON", desk.rule(2), 81);
+            Bench.due("it costs another sum", desk.costs(1, 1, 1) != first, true);
+            Bench.due("by the policy, too", desk.byPolicy(2, 0) != told, true);
+            Bench.same("undone, refunded at another node", Bench.picture(desk), want);
+            // the same by an image: COUPON 51 is brought back behind 81
+            desk = Bench.made(loan);
+            desk.refund();
+            desk.image();
+            desk.undo();
+            Bench.acts(desk, "ur");
+            desk.costs(1, 1, 1);
+            desk.byPolicy(2, 0);
+            desk.back();
+            Bench.due("COUPON brought back", desk.rule(2), 51);
+            Bench.due("what it costs by it", desk.costs(1, 1, 1), first);
+            Bench.due("what it costs by the policy", desk.byPolicy(2, 0), told);
+        }
     }
 }

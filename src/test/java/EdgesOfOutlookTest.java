@@ -290,13 +290,30 @@ public final class EdgesOfOutlookTest {
         Bench.asked("at FIRST", Bench.loan(FREE.replace("f0", "f1"), "u"), RefundDesk::till, 98);
         Bench.asked("of this NODE", Bench.loan(FREE + ";xy1h0r500", "d"), RefundDesk::till, 98);
         Bench.asked("too late", Bench.loan(FREE.replace("n0", "n1"), "dd"), RefundDesk::till, Bench.NONE);
+        tillByEachCoupon(1000);
+        tillByEachCoupon(9999);
         String[] loans = {"lp9999t4c90b40u20d20q30f0m7s2e3k2g1", "lp777t5c60b50u9d9q60f0n1m9s1e2k1g2", "lp5000t4c70b60u30d5f0m0s0e40k1;iy2a900",
             "lp9999t3c300b100u10d40q10f0n2m3e0k2", "lp7620t2c3b6u3d23q20m10s9f0n1k2g1e6", "lp22t3c92b31u16d2q99m15s2f0n1k0g3e8",
-            "lp2199t2c2q1f0n1k1m0e0g0;iy1a1699;xy1h1r1;xy1h0r2"};
+            "lp2199t2c2q1f0n1k1m0e0g0;iy1a1699;xy1h1r1;xy1h0r2",
+            // by the cuts a refund is best at a rate, not at each one below it
+            "lp30t4c358b41u8d4q56m3s0f0n0k2g0e1;xy3h1r495;xy3h0r905", "lp35t5c567b50u26d13q98m0s0f0n0k2g1e2",
+            "lp762t2c326b49u65d8q12m0s0f0n0k1g1e0;xy1h0r226;iy1a22", "lp50t4c438b61u7d38q46m0s0f0n0k1g2e1"};
         for (String loan : loans) {
             for (String acts : new String[] {"", "u", "d"}) {
                 tillByTrying(loan, acts);
             }
+        }
+    }
+
+    /** One year: PRINCIPAL and INTEREST, by the rate and cut, is more than PRINCIPAL, which a call costs. */
+    private static void tillByEachCoupon(int principal) {
+        for (int coupon = 0; coupon <= 999; coupon++) {
+            int due = principal + principal * coupon / 1000;
+            int want = Bench.NONE;
+            for (int rate = 0; rate <= 999; rate++) {
+                want = due * 1000 / (1000 + rate) > principal ? rate : want;
+            }
+            Bench.due("till of " + principal + " by the COUPON " + coupon, Bench.with("lt1b0m0f0k0c" + coupon + "p" + principal).till(), want);
         }
     }
 
@@ -339,6 +356,14 @@ public final class EdgesOfOutlookTest {
             {"lp1000t1b999f12", 999}, {"lp1000t1b998f12", 999}, {"lp1000t1b997f12", 998}, {FREE, 999}, {"lp1000t1b0f0m0", 999}, {"lp1000t1b0f0m1k0", 0}};
         for (Object[] row : rows) {
             Bench.asked("fair of " + row[0], Bench.loan((String) row[0]), RefundDesk::fair, (Integer) row[1]);
+        }
+        // one year: 1,000 and the coupon, by the rate, is 1,000 at most
+        for (int rate = 0; rate <= 999; rate++) {
+            int want = Bench.NONE;
+            for (int coupon = 0; coupon <= 999; coupon++) {
+                want = (1000 + coupon) * 1000 / (1000 + rate) <= 1000 ? coupon : want;
+            }
+            Bench.due("fair by the RATE " + rate, Bench.with("lp1000t1f12b" + rate).fair(), want);
         }
         String loan = "lp1000t3b50u20d10q40f12;iy1a300";
         RefundDesk desk = Bench.with(loan, "u");
@@ -445,6 +470,37 @@ public final class EdgesOfOutlookTest {
             Bench.asked("mended(" + node[0] + ", " + node[1] + ")", Bench.loan(FREE, "u"), desk -> desk.mended(node[0], node[1]), Bench.NONE);
         }
         Bench.asked("past", policy(FREE, "u", "pa1"), desk -> desk.byPolicy(0, 0), 1000);
+        toldAnew();
+        // deeds of all twelve years are others at once: told nothing, adopted, undone, told nothing again
+        RefundDesk twelve = Bench.with("lp1000t12c200b0u0d0m0s0f0n0k0e0");
+        Bench.due("held twelve years", twelve.byPolicy(0, 0), 1000 + 12 * 200);
+        Bench.due("all are adopted", twelve.adopt(), 78);
+        Bench.due("called at once", twelve.byPolicy(0, 0), 1000);
+        Bench.due("no regret", twelve.regret() * 100 + twelve.strays(0), 0);
+        twelve.undo();
+        Bench.due("undone", twelve.byPolicy(0, 0), 1000 + 12 * 200);
+        twelve.adopt();
+        Bench.due("adopted again", twelve.byPolicy(11, 11), 1000);
+        Bench.due("nothing is told", Bench.take(twelve, "p", 2), 0);
+        Bench.due("held again", twelve.byPolicy(11, 11), 1200);
+        Bench.due("held again", twelve.byPolicy(0, 0), 1000 + 12 * 200);
+    }
+
+    /** Asked, then a rate or an instalment is told anew, the deeds as they were: what it costs then, and undone. */
+    private static void toldAnew() {
+        // held three years at 0: 1,300; at 100 per mille here: 1,181
+        RefundDesk desk = Bench.with(NEVER);
+        Bench.due("at first", desk.byPolicy(0, 0), 1300);
+        desk.tell(0, 0, 100);
+        Bench.due("a rate told anew", desk.byPolicy(0, 0), 1300 * 1000 / 1100);
+        desk.undo();
+        Bench.due("undone", desk.byPolicy(0, 0), 1300);
+        desk.instal(1, 500);
+        Bench.due("an instalment told anew", desk.byPolicy(0, 0), 1000 + 100 + 50 + 50);
+        Bench.due("shifted", desk.shifted(99) < 1200, true);
+        Bench.due("not by the policy", desk.byPolicy(0, 0), 1200);
+        desk.undo();
+        Bench.due("undone", desk.byPolicy(0, 0), 1300);
     }
 
     private static void regretAndStrays() {
@@ -580,6 +636,11 @@ public final class EdgesOfOutlookTest {
         for (int principal : new int[] {63, 64, 65, 127, 128, 129}) {
             Bench.due("sums of " + principal, Bench.with("lt2c0f12p" + principal).spread(3), 1);
         }
+        int[] nothing = {0, 0, 0, 1, 0};
+        for (int what = 0; what < 5; what++) {
+            int one = what;
+            Bench.asked("nothing is LEFT to be PAID: spread(" + what + ")", Bench.loan("lp5t3f12;iy1a5", "u"), desk -> desk.spread(one), nothing[what]);
+        }
         // what was found a year ago does not stay
         RefundDesk later = Bench.with(NEVER);
         Bench.due("at first", later.spread(1) * 10 + later.spread(3), 13001);
@@ -599,18 +660,19 @@ public final class EdgesOfOutlookTest {
         int least = Integer.MAX_VALUE;
         int greatest = 0;
         int all = 0;
+        int called = 0;
         for (int moves = 0; moves < rows; moves++) {
             int paid = desk.way(moves, 0);
+            // a call always runs out ahead of the last YEAR
+            called += desk.way(moves, 2) < desk.rule(1) ? 1 : 0;
             unlike.add(paid);
             least = Math.min(least, paid);
             greatest = Math.max(greatest, paid);
             all += paid;
         }
-        long[] want = {least, greatest, -1, unlike.size(), all};
+        long[] want = {least, greatest, called, unlike.size(), all};
         for (int what = 0; what < 5; what++) {
-            if (what != 2) {
-                Bench.due("spread(" + what + ") of " + loan, Bench.with(loan, acts).spread(what), want[what]);
-            }
+            Bench.due("spread(" + what + ") of " + loan, Bench.with(loan, acts).spread(what), want[what]);
         }
     }
 }

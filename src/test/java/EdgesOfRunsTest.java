@@ -16,6 +16,7 @@ public final class EdgesOfRunsTest {
         most();
         images();
         back();
+        backToAFullLog();
         counts();
         Bench.finish();
     }
@@ -244,6 +245,10 @@ public final class EdgesOfRunsTest {
         }
         Bench.due("the greatest RATE of the last node", Bench.with("lt12b0u0d0;xy11h11r7").most(11), 7);
         Bench.due("of the first node", Bench.with("lt1b9").most(11), 9);
+        for (int years = 1; years <= 12; years++) {
+            Consumer<RefundDesk> free = Bench.loan("lb0u0d0t" + years).andThen(x -> Bench.take(x, "pa2;py11h11a2", 2));
+            Bench.due("all RATES are 0, DEEDS are not, YEARS " + years, Bench.made(free).most(11), 0);
+        }
         Bench.due("of no other loan", Bench.made(Bench.loan("lt12b999").andThen(Bench.loan("lt2b9u0d0"))).most(11), 9);
         Bench.due("LEFT behind an instalment of all", Bench.with("lp5t3;iy1a9", "u").most(6), 0);
         Bench.due("it has not ended so", Bench.with("lp5t3;iy1a9", "u").most(7), 0);
@@ -331,6 +336,56 @@ public final class EdgesOfRunsTest {
         desk = Bench.made(Bench.loan(FOUR, "uuuu").andThen(RefundDesk::image));
         desk.undo();
         Bench.due("BACK to the end", desk.back() * 10 + desk.most(7), 13801);
+    }
+
+    /** The LOG as it was with the image, however many acts were logged there and have been since. */
+    private static void backToAFullLog() {
+        for (int ahead : new int[] {59, 60, 61, 99, 100, 101}) {
+            for (int since : new int[] {1, 40, 60, 100, 101}) {
+                RefundDesk desk = Bench.with("lt12b0");
+                tellRates(desk, 1, ahead);
+                desk.image();
+                tellRates(desk, ahead + 1, ahead + since);
+                String when = ahead + " acts, an image, " + since + " more";
+                Bench.due(when + ", BACK", desk.back(), 0);
+                Bench.due(when + ": none can be undone", desk.count(4), 0);
+                Bench.due(when + ": none is undone", desk.undo(), Bench.NONE);
+                logged(when + ", BACK", desk, ahead);
+                // what is done then is undone down to the image and no further
+                tellRates(desk, ahead + 1, ahead + 1);
+                logged(when + ", BACK, one more", desk, ahead + 1);
+                Bench.due(when + ": it is undone", desk.undo(), 0);
+                logged(when + ", BACK, one undone", desk, ahead);
+                Bench.due(when + ": no more", desk.undo(), Bench.NONE);
+                Bench.due(when + ": the rate", Bench.rateOf(desk, ahead % 12, 0), ahead);
+            }
+        }
+        RefundDesk desk = Bench.with("lt12b0");
+        tellRates(desk, 1, 100);
+        desk.image();
+        desk.back();
+        tellRates(desk, 101, 141);
+        for (int left = 39; left >= 0; left--) {
+            Bench.due("41 behind BACK: undo()", desk.undo(), left);
+        }
+        logged("41 behind BACK, 40 undone", desk, 101);
+        Bench.due("no more", desk.undo(), Bench.NONE);
+    }
+
+    /** The n-th act tells the rate n, of the years by turns, so that the LOG tells which act it was. */
+    private static void tellRates(RefundDesk desk, int from, int until) {
+        for (int n = from; n <= until; n++) {
+            desk.tell(n % 12, 0, n);
+        }
+    }
+
+    private static void logged(String when, RefundDesk desk, int acts) {
+        int length = Math.min(60, acts);
+        Bench.due(when + ": count(3)", desk.count(3), length);
+        for (int i = 0; i < length; i++) {
+            Bench.due(when + ": log(" + i + ", 1)", desk.log(i, 1), (acts - i) % 12);
+        }
+        Bench.due(when + ": log(" + length + ", 1)", desk.log(length, 1), Bench.HIDDEN);
     }
 
     /** All but how many acts can be undone. */

@@ -406,6 +406,11 @@ public final class EdgesOfTextsTest {
         Bench.due("(0, 0), (1, 0), (1, 1)", desk.deed(0, 0) * 100 + desk.deed(1, 0) * 10 + desk.deed(1, 1), 120);
         desk = good("iy1a300;iy3a1;lt3", 0);
         Bench.due("one that is left out changes nothing", desk.year(1, 0), 300);
+        // an i is no x, though its numbers could be those of a NODE; nor is an x an i
+        desk = good("lp1000t3b50u10d20;iy1;iy1a1;iy2a0;iy2a1;iy2a2;xy1h0r7", 0);
+        Bench.due("RATES of (1, 1), (2, 0), (2, 1), (2, 2)", Bench.rateOf(desk, 1, 1) * 1000000 + Bench.rateOf(desk, 2, 0) * 10000
+            + Bench.rateOf(desk, 2, 1) * 100 + Bench.rateOf(desk, 2, 2), 60000000 + 100000 + 4000 + 70);
+        Bench.due("INSTALMENTS", desk.year(1, 0) * 10 + desk.year(2, 0), 12);
     }
 
     private static void textSorts() {
@@ -453,6 +458,30 @@ public final class EdgesOfTextsTest {
             Bench.due("nothing is another", desk.most(0) + desk.most(4), 0);
         }
         Bench.due("status of the refused ones", Bench.made(refusals).status(1), 2);
+        shorterLoans();
+    }
+
+    /** Of a longer loan, called at each node, nothing stays where a shorter one that is never called ends. */
+    private static void shorterLoans() {
+        String[] longer = {"lp1000t5c100b0u0d0m0s0f0n0k0", "lp1000t5c200b10u9d1q90m0s0f0n0k2e0", "lp1000t5c200b0u0d0m0s0f0n1k0"};
+        for (String first : longer) {
+            for (int years = 1; years < 5; years++) {
+                String text = "lp1000c100b0u0d0f12k0t" + years;
+                RefundDesk desk = Bench.with(first);
+                Bench.take(desk, "pa1;py1a2;py2h1a1;py3h2a2", 2);
+                long[] asked = {desk.masses(0), desk.strays(0), desk.edge(4), desk.byPolicy(0, 0), desk.ending(2, 0), desk.spread(2)};
+                Bench.due("the longer one is called or refunded", asked[0] + desk.masses(1), 1000000000);
+                Bench.take(desk, text, 0);
+                RefundDesk plain = Bench.with(text);
+                for (int what = 0; what < 3; what++) {
+                    Bench.due(text + " behind " + first + ": masses(" + what + ")", desk.masses(what), what < 2 ? 0 : 1000000000);
+                    Bench.due(text + " behind " + first + ": strays(" + what + ")", desk.strays(what), what < 1 ? 0 : Bench.NONE);
+                }
+                Bench.due("none to adopt", desk.adopt(), Bench.NONE);
+                plain.adopt();
+                Bench.same(text + " behind " + first, Bench.picture(desk), Bench.picture(plain));
+            }
+        }
     }
 
     private static void policies() {
@@ -467,9 +496,35 @@ public final class EdgesOfTextsTest {
         desk.text(2);
         desk.back();
         Bench.due("brought back", desk.deed(1, 1) * 10 + desk.deed(2, 2), 12);
+        policiesBetweenActs();
         Consumer<RefundDesk> ended = Bench.loan("lt1", "u").andThen(tapeAlone("pa2"));
         Bench.due("of a loan that has ended", Bench.taken("it is taken", ended, x -> x.text(2), 1).deed(0, 0), 2);
         Bench.due("none at all", Bench.take(Bench.with("lt3"), "p", 2), 0);
+    }
+
+    /** Each act that is undone brings the policy back that was there ahead of it, told or adopted. */
+    private static void policiesBetweenActs() {
+        RefundDesk desk = Bench.with("lp1000t3c200b10u1d1q50m0s0f0n0k0g0e0");
+        Bench.take(desk, "pa2", 2);
+        desk.tell(2, 0, 500);
+        Bench.take(desk, "py1h1a2", 2);
+        Bench.take(desk, "py1a2", 2);
+        desk.instal(1, 5);
+        Bench.take(desk, "py2h2a2", 2);
+        Bench.due("the last one", desk.deed(0, 0) * 1000 + desk.deed(1, 0) * 100 + desk.deed(1, 1) * 10 + desk.deed(2, 2), 2);
+        Bench.due("refused: it stays", desk.instal(1, 5), Bench.NONE);
+        Bench.due("the last one", desk.deed(2, 2), 2);
+        Bench.due("undo()", desk.undo(), 1);
+        Bench.due("the latest ahead of the second act", desk.deed(0, 0) * 1000 + desk.deed(1, 0) * 100 + desk.deed(1, 1) * 10 + desk.deed(2, 2), 200);
+        Bench.due("adopt()", desk.adopt() > 0, true);
+        Bench.take(desk, "p", 2);
+        Bench.due("nothing is told", desk.deed(0, 0) + desk.deed(1, 0) + desk.deed(1, 1), 0);
+        Bench.due("undo() of ADOPTED", desk.undo(), 1);
+        Bench.due("as it was ahead of it", desk.deed(0, 0) * 100 + desk.deed(1, 0) * 10 + desk.deed(1, 1), 20);
+        Bench.due("undo()", desk.undo(), 0);
+        Bench.due("ahead of the first act", desk.deed(0, 0) * 100 + desk.deed(1, 0) * 10 + desk.deed(1, 1), 200);
+        Bench.due("no act is left", desk.undo(), Bench.NONE);
+        Bench.due("what was told ahead of all acts stays", desk.deed(0, 0), 2);
     }
 
     private static void scripts() {
@@ -485,6 +540,8 @@ public final class EdgesOfTextsTest {
         });
         Bench.refused("a fifth", four, x -> x.text(1), Bench.NONE, Bench.UNCOUNTED);
         Bench.asked("it has no fault", four, x -> x.fault(1), Bench.NONE);
+        Bench.refused("a fifth with a fault", four.andThen(x -> Bench.feed(x, "z")), x -> x.text(1), Bench.NONE, Bench.UNCOUNTED);
+        Bench.asked("its fault", four.andThen(x -> Bench.feed(x, "z")), x -> x.fault(1), 1);
         RefundDesk full = Bench.made(four);
         full.undo();
         full.back();
