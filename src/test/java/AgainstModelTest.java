@@ -12,12 +12,18 @@ import java.util.Set;
  * rate tried instead of halving.
  */
 public final class AgainstModelTest {
+    /** So many calls the document promises an object to bear. */
+    private static final int MOST_CALLS = 512;
+    /** At most so many calls one turn of a run makes (a full tape is told), at most so many one comparing. */
+    private static final int TURN = 20;
+    private static final int COMPARING = 100;
     private static int wrong;
     private static int asked;
+    private static int used;
     private static String story = "";
 
     public static void main(String[] args) {
-        int runs = args.length > 1 ? Integer.parseInt(args[1]) : 90;
+        int runs = args.length > 1 ? Integer.parseInt(args[1]) : 300;
         long seed = args.length > 2 ? Long.parseLong(args[2]) : 20261117L;
         Random random = new Random(seed);
         manyRounds("lp468t12c88b34u6d93q86m31s43f0n0k2g3e1", "xy8h6r183;xy4h2r167", "py11h2a1;py10h6a2", 20);
@@ -32,8 +38,10 @@ public final class AgainstModelTest {
         }
     }
 
+    /** Each answer that is asked is a call of the object. */
     private static void due(String call, long got, long want) {
         asked++;
+        used++;
         if (got != want) {
             wrong++;
             System.out.println(story + "\n   " + call + " answered " + got + ", the model says " + want);
@@ -42,7 +50,9 @@ public final class AgainstModelTest {
 
     static void put(RefundDesk desk, String text) {
         desk.end(0);
+        used++;
         for (int from = 0; from < text.length(); from += 20) {
+            used++;
             int[] five = new int[5];
             for (int i = 0; i < 20; i++) {
                 int sign = from + i < text.length() ? text.charAt(from + i) : 0;
@@ -88,12 +98,15 @@ public final class AgainstModelTest {
         RefundDesk desk = new RefundDesk();
         Model model = new Model();
         boolean small = run % 3 != 0;
+        boolean busy = run % 5 == 0;
+        used = 0;
         loan(random, desk, model, small, "run " + run);
-        int calls = 60 + random.nextInt(60);
         int scripts = 0;
-        for (int i = 0; i < calls && wrong < 20; i++) {
+        for (int i = 0; used <= MOST_CALLS - TURN - COMPARING && wrong < 20; i++) {
             int kind = random.nextInt(40);
-            if (kind < 22) {
+            if (busy && random.nextInt(20) > 0) {
+                aTelling(random, desk, model);
+            } else if (kind < 22) {
                 anAct(random, desk, model);
             } else if (kind < 24) {
                 policy(random, desk, model);
@@ -110,11 +123,15 @@ public final class AgainstModelTest {
             } else {
                 ask(random, desk, model);
             }
-            if (i % 12 == 0) {
+            if (i % (busy ? 100 : 24) == 12 && used <= MOST_CALLS - TURN - 2 * COMPARING) {
                 compare(random, desk, model, small);
             }
         }
         compare(random, desk, model, small);
+        if (used > MOST_CALLS) {
+            wrong++;
+            System.out.println(story + "\n   made " + used + " calls");
+        }
     }
 
     private static void loan(Random random, RefundDesk desk, Model model, boolean small, String name) {
@@ -248,6 +265,24 @@ public final class AgainstModelTest {
         }
     }
 
+    /** Acts that can be again and again: so there come to be more than can be undone, more than the log shows. */
+    private static void aTelling(Random random, RefundDesk desk, Model model) {
+        State now = model.state;
+        int year = Math.min(model.years() - 1, now.t) + random.nextInt(Math.max(1, model.years() - now.t));
+        int height = now.h + random.nextInt(Math.max(1, year - now.t + 1));
+        int number = random.nextInt(200);
+        if (now.ended) {
+            story += " undo";
+            due("undo()", desk.undo(), model.undo());
+        } else if (random.nextBoolean()) {
+            story += " tell(" + year + "," + height + "," + number + ")";
+            due("tell", desk.tell(year, height, number), model.act(6, year, height, number, true));
+        } else {
+            story += " instal(" + year + "," + number + ")";
+            due("instal", desk.instal(year, number), model.act(5, year, number, 0, true));
+        }
+    }
+
     private static void ask(Random random, RefundDesk desk, Model model) {
         int year = random.nextInt(model.years() + 3) - 1;
         int height = random.nextInt(model.years() + 3) - 1;
@@ -313,11 +348,11 @@ public final class AgainstModelTest {
             due("till", desk.till(), model.till());
             due("fair", desk.fair(), model.fair());
         }
-        for (int t = 0; t < model.years(); t++) {
-            for (int h = 0; h <= t; h++) {
-                for (int what = 0; what < 4; what++) {
-                    due("costs(" + t + "," + h + ")" + what, desk.costs(t, h, what), model.costs(t, h, what));
-                }
+        for (int nodes = 0; nodes < 5; nodes++) {
+            int t = random.nextInt(model.years());
+            int h = random.nextInt(t + 1);
+            for (int what = 0; what < 4; what++) {
+                due("costs(" + t + "," + h + ")" + what, desk.costs(t, h, what), model.costs(t, h, what));
             }
         }
     }
